@@ -18,13 +18,18 @@ public final class CellAreas {
     private static final int FARTHEST = END - FIRST;
     /** Answered where no number of the field can stand: NONE is an x as good as any. */
     private static final int NO_NUMBER = NONE - 2000;
+    /** The hows of combine(). */
+    private static final int IN_ANY = 0;
+    private static final int IN_BOTH = 1;
+    private static final int IN_FIRST_ONLY = 2;
+    private static final int IN_JUST_ONE = 3;
 
     private final Area[] areas = new Area[AREAS];
     private final Builder builder = new Builder();
     private final Row row = new Row();
     private final Row other = new Row();
     private final Row cuts = new Row();
-    private final Loops loops;
+    private final Loops loops = new Loops();
     /** The area that loops tells of, kept because corners are mostly asked for one after the other. */
     private int traced = NONE;
     private final Parts parts = new Parts();
@@ -34,7 +39,6 @@ public final class CellAreas {
         for (int a = 0; a < AREAS; a++) {
             areas[a] = new Area();
         }
-        loops = new Loops(areas[0]);
     }
 
     public void box(int a, int left, int low, int right, int high)
@@ -63,7 +67,7 @@ public final class CellAreas {
         needArea(to);
         needArea(a);
         needArea(b);
-        needBetween(how, 0, 3);
+        needBetween(how, IN_ANY, IN_JUST_ONE);
         cuts.wipe();
         areas[a].markRows(cuts, 0);
         areas[b].markRows(cuts, 0);
@@ -257,7 +261,7 @@ public final class CellAreas {
         needBetween(i, 0, borders.loops - 1);
         needBetween(k, 0, borders.cornersOf(i) - 1);
         int place = borders.start[i] + k;
-        return what == 0 ? borders.x[place] : borders.y[place];
+        return what == 0 ? borders.xOf(place) : borders.yOf(place);
     }
 
     public int inner(int to, int a, int i) throws IndexOutOfBoundsException, IllegalArgumentException {
@@ -269,7 +273,7 @@ public final class CellAreas {
         builder.start();
         for (int k = 0; k < area.bands; k++) {
             row.wipe();
-            borders.layInside(i, k, row);
+            borders.layInside(area, i, k, row);
             builder.add(area.low[k], area.high[k], row);
         }
         return keep(to);
@@ -334,7 +338,7 @@ public final class CellAreas {
             next = Math.max(y + 1, cuts.nextIn(y + 1));
             layRow(area, y, row);
             layRow(areas[b], y, other);
-            row.mix(other, 2);
+            row.mix(other, IN_FIRST_ONLY);
             if (!row.isEmpty()) {
                 return false;
             }
@@ -487,7 +491,7 @@ public final class CellAreas {
             if (area.below(i) != NONE) {
                 area.layBand(i, other, -left, -right);
             }
-            row.mix(other, 1);
+            row.mix(other, IN_BOTH);
         }
     }
 
@@ -501,7 +505,7 @@ public final class CellAreas {
             for (int k = i + 1; k < area.bands && area.below(k) != NONE && !row.isEmpty(); k++) {
                 other.wipe();
                 area.layBand(k, other, 0, 0);
-                row.mix(other, 1);
+                row.mix(other, IN_BOTH);
                 offerBoxes(area.low[i], area.high[k]);
             }
         }
@@ -548,21 +552,21 @@ public final class CellAreas {
 
         /** Adds the numbers from the first to the second, that not among them; those beyond the field fall away. */
         void fill(int from, int to) {
-            change(from, to, -1L);
+            change(from, to, false);
         }
 
         /** As fill(), but numbers that were in it already go out. */
         void flip(int from, int to) {
-            change(from, to, 0L);
+            change(from, to, true);
         }
 
-        private void change(int from, int to, long stay) {
+        private void change(int from, int to, boolean turned) {
             int first = Math.max(from, FIRST) - FIRST;
             int last = Math.min(to, END) - FIRST - 1;
             if (first <= last) {
                 for (int w = first >> 6; w <= last >> 6; w++) {
                     long mask = mask(w, first, last);
-                    words[w] = (words[w] ^ mask) | (mask & words[w] & stay);
+                    words[w] = turned ? words[w] ^ mask : words[w] | mask;
                 }
             }
         }
@@ -587,11 +591,11 @@ public final class CellAreas {
 
         private static long mixWords(long mine, long its, int how) {
             switch (how) {
-                case 0:
+                case IN_ANY:
                     return mine | its;
-                case 1:
+                case IN_BOTH:
                     return mine & its;
-                case 2:
+                case IN_FIRST_ONLY:
                     return mine & ~its;
                 default:
                     return mine ^ its;
@@ -816,21 +820,18 @@ public final class CellAreas {
      * and edge 2 s + 1, its right end gone up, each through the whole band.
      */
     private static final class Loops {
-        private Area area;
+        /** How many places there are in a row: a corner is held as one number, to keep the object small. */
+        private static final int WIDTH = END - FIRST + 1;
+
         int loops = 0;
         int corners = 0;
         private final int[] loopOf = new int[2 * MAX_STRETCHES];
-        /** Each loop has an edge down and one up at least, and each edge turns at its two ends at most. */
+        /** Where each loop's corners begin; each loop has an edge down and one up at least. */
         final int[] start = new int[MAX_STRETCHES + 1];
-        final int[] x = new int[4 * MAX_STRETCHES];
-        final int[] y = new int[4 * MAX_STRETCHES];
+        /** Each edge turns at its two ends at most; one more, for walk() comes to a hole's first corner twice. */
+        private final int[] places = new int[4 * MAX_STRETCHES + 1];
 
-        Loops(Area area) {
-            this.area = area;
-        }
-
-        void trace(Area of) {
-            area = of;
+        void trace(Area area) {
             loops = 0;
             corners = 0;
             int edges = 2 * area.stretches();
@@ -838,21 +839,21 @@ public final class CellAreas {
             // Edges stand in the order of their lower ends, and of those a loop's least one is its first corner.
             for (int edge = 0; edge < edges; edge++) {
                 if (loopOf[edge] == NONE) {
-                    walk(edge, edges);
+                    walk(area, edge, edges);
                 }
             }
         }
 
-        private void walk(int firstEdge, int edges) {
+        private void walk(Area area, int firstEdge, int edges) {
             boolean up = goesUp(firstEdge);
-            // The way comes to the lower end of an edge that goes up just at its end: its place is at the front.
+            // The way comes to the lower end of an edge that goes up last of all, but it is the first corner.
             if (up) {
                 turnAt(area.right[firstEdge / 2], area.low[area.bandOf(firstEdge / 2)]);
             }
             int edge = firstEdge;
             for (int steps = 0; steps < edges && loopOf[edge] == NONE; steps++) {
                 loopOf[edge] = loops;
-                edge = goesUp(edge) ? afterUp(edge / 2) : afterDown(edge / 2);
+                edge = goesUp(edge) ? afterUp(area, edge / 2) : afterDown(area, edge / 2);
             }
             if (up) {
                 corners--;
@@ -865,36 +866,43 @@ public final class CellAreas {
             return edge % 2 == 1;
         }
 
-        private void turnAt(int cornerX, int cornerY) {
-            if (corners < x.length) {
-                x[corners] = cornerX;
-                y[corners] = cornerY;
+        private void turnAt(int x, int y) {
+            if (corners < places.length) {
+                places[corners] = (y - FIRST) * WIDTH + x - FIRST;
                 corners++;
             }
         }
 
-        private int afterUp(int s) {
+        int xOf(int corner) {
+            return places[corner] % WIDTH + FIRST;
+        }
+
+        int yOf(int corner) {
+            return places[corner] / WIDTH + FIRST;
+        }
+
+        private int afterUp(Area area, int s) {
             int i = area.bandOf(s);
             int at = area.right[s];
             int over = area.stretchAt(area.above(i), at - 1);
             if (over == NONE) {
-                return alongTop(s, area.above(i), at, area.high[i]);
+                return alongTop(area, s, area.above(i), at, area.high[i]);
             }
-            return area.right[over] == at ? 2 * over + 1 : alongBottom(over, i, at, area.high[i]);
+            return area.right[over] == at ? 2 * over + 1 : alongBottom(area, over, i, at, area.high[i]);
         }
 
-        private int afterDown(int s) {
+        private int afterDown(Area area, int s) {
             int i = area.bandOf(s);
             int at = area.left[s];
             int under = area.stretchAt(area.below(i), at);
             if (under == NONE) {
-                return alongBottom(s, area.below(i), at, area.low[i]);
+                return alongBottom(area, s, area.below(i), at, area.low[i]);
             }
-            return area.left[under] == at ? 2 * under : alongTop(under, i, at, area.low[i]);
+            return area.left[under] == at ? 2 * under : alongTop(area, under, i, at, area.low[i]);
         }
 
         /** To the left over stretch s, until a stretch of the band above stands in the way or s ends. */
-        private int alongTop(int s, int above, int from, int height) {
+        private int alongTop(Area area, int s, int above, int from, int height) {
             turnAt(from, height);
             int over = area.endingBehind(above, from) - 1;
             if (over >= area.startOf(above) && area.right[over] > area.left[s]) {
@@ -906,7 +914,7 @@ public final class CellAreas {
         }
 
         /** To the right under stretch s, until a stretch of the band below stands in the way or s ends. */
-        private int alongBottom(int s, int below, int from, int height) {
+        private int alongBottom(Area area, int s, int below, int from, int height) {
             turnAt(from, height);
             int under = area.endingBehind(below, from);
             if (under < area.endOf(below) && area.left[under] < area.right[s]) {
@@ -929,7 +937,7 @@ public final class CellAreas {
             int length = 0;
             for (int c = start[i]; c < start[i + 1]; c++) {
                 int n = next(i, c);
-                length += Math.abs(x[n] - x[c]) + Math.abs(y[n] - y[c]);
+                length += Math.abs(xOf(n) - xOf(c)) + Math.abs(yOf(n) - yOf(c));
             }
             return length;
         }
@@ -938,7 +946,7 @@ public final class CellAreas {
             long twice = 0;
             for (int c = start[i]; c < start[i + 1]; c++) {
                 int n = next(i, c);
-                twice += (long) x[c] * y[n] - (long) x[n] * y[c];
+                twice += (long) xOf(c) * yOf(n) - (long) xOf(n) * yOf(c);
             }
             return (int) (twice / 2);
         }
@@ -971,7 +979,7 @@ public final class CellAreas {
         }
 
         /** Adds to a row what loop i goes round in a band. */
-        void layInside(int i, int band, Row into) {
+        void layInside(Area area, int i, int band, Row into) {
             for (int s = area.startOf(band); s < area.endOf(band); s++) {
                 if (loopOf[2 * s] == i) {
                     into.flip(area.left[s], END);
@@ -987,8 +995,8 @@ public final class CellAreas {
             for (int i = 0; i < loops; i++) {
                 for (int c = start[i]; c < start[i + 1]; c++) {
                     int n = next(i, c);
-                    if (x[c] == x[n] && Math.min(y[c], y[n]) <= at && at < Math.max(y[c], y[n])) {
-                        into.flip(x[c], END);
+                    if (xOf(c) == xOf(n) && Math.min(yOf(c), yOf(n)) <= at && at < Math.max(yOf(c), yOf(n))) {
+                        into.flip(xOf(c), END);
                     }
                 }
             }
@@ -996,7 +1004,7 @@ public final class CellAreas {
 
         void markRows(Row marks) {
             for (int c = 0; c < corners; c++) {
-                marks.fill(y[c], y[c] + 1);
+                marks.fill(yOf(c), yOf(c) + 1);
             }
         }
     }

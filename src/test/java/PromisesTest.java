@@ -40,6 +40,8 @@ public final class PromisesTest {
         noSuchArea();
         areasComeFirst();
         limits();
+        mostCorners();
+        fieldEdges();
         System.out.println(wrong == 0 ? "all promises hold" : wrong + " answers are not as due");
         if (wrong != 0) {
             System.exit(1);
@@ -772,11 +774,70 @@ public final class PromisesTest {
         x.move(4, 2, 0, 1);
         due("one row more", x.combine(5, 2, 4, 0), 1);
         due("400 stretches", x.band(5, 0, 2), 400);
-        x.box(6, 900, -1000, 901, -999);
+        x.box(6, 999, -1000, 1000, -989);
         due("401 stretches", x.combine(5, 5, 6, 0), CellAreas.FULL);
         due("upside down is no more", x.mirror(5, 5, 0), 1);
         due("401 stretches", x.invert(5, 5), CellAreas.FULL);
         due("check", x.check(5), 1);
+    }
+
+    /** 398 bars between a floor and a roof: as many corners as there can be, and the last loop goes round a hole. */
+    private static void mostCorners() {
+        promise = "the limits of an area";
+        CellAreas x = new CellAreas();
+        uprightComb(x, 0, 512);
+        due("256 stretches, for 512 are too many", x.band(0, 0, 2), 256);
+        x.move(1, 0, 512, 0);
+        x.box(2, -1000 + 796, -1000, 1000, 1000);
+        x.combine(1, 1, 2, 2);
+        x.combine(0, 0, 1, 0);
+        x.move(0, 0, 1, 1);
+        x.box(2, -1000, -1000, -203, -999);
+        x.combine(0, 0, 2, 0);
+        x.box(2, -1000, -989, -203, -988);
+        due("bands", x.combine(0, 0, 2, 0), 3);
+        counts(x, 0, 2 * 797 + 3980, 2 * (797 + 12) + 397 * 22 + 4, 398, 1600, 1, 397);
+        due("corners of the outer loop", x.loop(0, 0, 0), 12);
+        for (int i = 1; i < 398; i += 33) {
+            due("corners of a hole's loop", x.loop(0, i, 0), 4);
+            due("round a hole", x.loop(0, i, 2), -10);
+        }
+        due("round the last hole", x.loop(0, 397, 2), -10);
+        due("the last corner, x", x.corner(0, 397, 3, 0), -205);
+        due("the last corner, y", x.corner(0, 397, 3, 1), -999);
+        due("the last hole", x.inner(1, 0, 397), 1);
+        sameArea(x, 1, "-999..-989: -206..-205");
+    }
+
+    /** The first and the last row and column of the field are as good as the others. */
+    private static void fieldEdges() {
+        promise = "the field's edges";
+        CellAreas x = new CellAreas();
+        x.box(0, -1000, -1000, -999, -999);
+        x.box(1, 999, 999, 1000, 1000);
+        due("or", x.combine(2, 0, 1, 0), 2);
+        sameArea(x, 2, "-1000..-999: -1000..-999; 999..1000: 999..1000");
+        due("in one", x.combine(3, 2, 1, 3), 1);
+        sameArea(x, 3, "-1000..-999: -1000..-999");
+        due("invert", x.invert(3, 2), 3);
+        sameArea(x, 3, "-1000..-999: -999..1000; -999..999: -1000..1000; 999..1000: -1000..999");
+        due("mirror", x.mirror(4, 3, 2), 3);
+        sameArea(x, 4, "-1000..-999: -999..1000; -999..999: -1000..1000; 999..1000: -1000..999");
+        due("grow", x.grow(4, 2, 0, 1, 0, 1), 2);
+        sameArea(x, 4, "-1000..-998: -1000..-998; 999..1000: 999..1000");
+        due("grow", x.grow(4, 2, 1, 0, 1, 0), 2);
+        sameArea(x, 4, "-1000..-999: -1000..-999; 998..1000: 998..1000");
+        due("shrink", x.shrink(4, 3, 0, 0, 0, 0), 3);
+        sameArea(x, 4, "-1000..-999: -999..1000; -999..999: -1000..1000; 999..1000: -1000..999");
+        due("shrink, each way by another number", x.shrink(4, 3, 1, 2, 1, 0), 3);
+        sameArea(x, 4, "-999..-998: -998..998; -998..999: -999..998; 999..1000: -999..997");
+        due("the first row is not within", x.within(0, 1), 0);
+        due("the last row is not within", x.within(1, 0), 0);
+        due("both are within", x.within(1, 2) && x.within(0, 2), 1);
+        due("distance", x.distance(0, 1), 1999);
+        due("the last cell", x.partOf(2, 999, 999), 1);
+        largestIs(x, 1, 999, 999, 1000, 1000);
+        sameLoops(x, 2, "-1000,-1000 -999,-1000 -999,-999 -1000,-999 | 999,999 1000,999 1000,1000 999,1000");
     }
 
     /** Area a becomes three times three cells without the middle one. Area 7 is left without cells. */
@@ -867,12 +928,10 @@ public final class PromisesTest {
     private static int answer(Call call) {
         try {
             return call.answer();
-        } catch (IndexOutOfBoundsException e) {
-            return AREA;
-        } catch (IllegalArgumentException e) {
-            return ARGUMENT;
         } catch (RuntimeException e) {
-            return OTHER;
+            // Just these classes: one that an array throws by itself is a class under the one that is due.
+            return e.getClass() == IndexOutOfBoundsException.class ? AREA
+                    : e.getClass() == IllegalArgumentException.class ? ARGUMENT : OTHER;
         }
     }
 
