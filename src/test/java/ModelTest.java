@@ -249,7 +249,8 @@ public final class ModelTest {
                 switch (op) {
                     case BOX:
                         areas.box(n[0], n[1], n[2], n[3], n[4]);
-                        return areas.bands(n[0]);
+                        // It answers nothing, and asking for the bands would be a call more than are counted.
+                        return 1;
                     case COMBINE:
                         return areas.combine(n[0], n[1], n[2], n[3]);
                     case INVERT:

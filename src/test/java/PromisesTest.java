@@ -1,16 +1,5 @@
 /** Written cases for each promise: ordinary inputs, the edges that the document names, and wrong inputs. */
-public final class PromisesTest {
-    private static final int NO_NUMBER = -2001;
-    private static final int AREA = -9001;
-    private static final int ARGUMENT = -9002;
-    private static final int OTHER = -9003;
-    private static int wrong = 0;
-    private static String promise = "";
-
-    private interface Call {
-        int answer();
-    }
-
+public final class PromisesTest extends Checks {
     public static void main(String[] args) {
         newObject();
         box();
@@ -42,14 +31,11 @@ public final class PromisesTest {
         limits();
         mostCorners();
         fieldEdges();
-        System.out.println(wrong == 0 ? "all promises hold" : wrong + " answers are not as due");
-        if (wrong != 0) {
-            System.exit(1);
-        }
+        finish("all promises hold");
     }
 
     private static void newObject() {
-        promise = "1 a new object";
+        about("promise 1 a new object");
         CellAreas x = new CellAreas();
         for (int i = 0; i < 8; i++) {
             int a = i;
@@ -63,7 +49,7 @@ public final class PromisesTest {
     }
 
     private static void box() {
-        promise = "2 box";
+        about("promise 2 box");
         CellAreas x = new CellAreas();
         x.box(3, -2, 5, 4, 8);
         sameArea(x, 3, "5..8: -2..4");
@@ -80,7 +66,7 @@ public final class PromisesTest {
     }
 
     private static void boxRefuses() {
-        promise = "2 box";
+        about("promise 2 box");
         CellAreas x = new CellAreas();
         x.box(0, 1, 2, 3, 4);
         int[][] bad = {{-1001, 0, 1, 1}, {0, -1001, 1, 1}, {0, 0, 1001, 1}, {0, 0, 1, 1001}, {0, 0, 0, 1},
@@ -97,7 +83,7 @@ public final class PromisesTest {
     }
 
     private static void clear() {
-        promise = "3 clear";
+        about("promise 3 clear");
         CellAreas x = new CellAreas();
         due("clear of nothing", x.clear(2), 0);
         ring(x, 2, 0, 0);
@@ -110,7 +96,7 @@ public final class PromisesTest {
     }
 
     private static void combine() {
-        promise = "4 combine";
+        about("promise 4 combine");
         CellAreas x = new CellAreas();
         x.box(0, 0, 0, 4, 4);
         x.box(1, 2, 2, 6, 6);
@@ -138,7 +124,7 @@ public final class PromisesTest {
     }
 
     private static void combineInPlace() {
-        promise = "4 combine";
+        about("promise 4 combine");
         CellAreas x = new CellAreas();
         x.box(0, 0, 0, 3, 3);
         x.box(1, 1, 1, 2, 2);
@@ -157,9 +143,9 @@ public final class PromisesTest {
     }
 
     private static void combineFull() {
-        promise = "4 combine";
+        about("promise 4 combine");
         CellAreas x = new CellAreas();
-        lyingComb(x, 0, 64);
+        lyingBars(x, 0, 64, 0, 0);
         x.move(1, 0, 0, 128);
         due("128 bands", x.combine(2, 0, 1, 0), CellAreas.FULL);
         due("nothing is changed", x.bands(2), 0);
@@ -175,7 +161,7 @@ public final class PromisesTest {
     }
 
     private static void invert() {
-        promise = "5 invert";
+        about("promise 5 invert");
         CellAreas x = new CellAreas();
         due("of nothing", x.invert(0, 1), 1);
         sameArea(x, 0, "-1000..1000: -1000..1000");
@@ -192,13 +178,13 @@ public final class PromisesTest {
         x.box(1, -1000, -1000, 0, 1000);
         due("of a half", x.invert(1, 1), 1);
         sameArea(x, 1, "-1000..1000: 0..1000");
-        lyingComb(x, 3, 64);
+        lyingBars(x, 3, 64, 0, 0);
         due("of 64 bands", x.invert(4, 3), CellAreas.FULL);
         due("nothing is changed", x.bands(4), 0);
     }
 
     private static void move() {
-        promise = "6 move";
+        about("promise 6 move");
         CellAreas x = new CellAreas();
         ring(x, 0, 0, 0);
         due("move", x.move(1, 0, -5, 7), 3);
@@ -226,7 +212,7 @@ public final class PromisesTest {
     }
 
     private static void mirror() {
-        promise = "7 mirror";
+        about("promise 7 mirror");
         CellAreas x = new CellAreas();
         x.box(0, 1, 2, 5, 3);
         x.box(1, 1, 3, 2, 6);
@@ -250,17 +236,17 @@ public final class PromisesTest {
         for (int way : new int[] {-1, 3, Integer.MAX_VALUE}) {
             due("no such way", answer(() -> x.mirror(4, 3, way)), ARGUMENT);
         }
-        uprightComb(x, 5, 128);
+        columns(x, 5, 128, -1000, -1000);
         due("128 bands", x.mirror(4, 5, 2), CellAreas.FULL);
         sameArea(x, 4, "-1000..-999: 999..1000");
         due("one band of 128 stretches", x.mirror(4, 5, 1), 1);
         due("one band of 128 stretches", x.band(4, 0, 2), 128);
-        uprightComb(x, 5, 64);
+        columns(x, 5, 64, -1000, -1000);
         due("64 bands", x.mirror(4, 5, 2), 64);
     }
 
     private static void grow() {
-        promise = "8 grow";
+        about("promise 8 grow");
         CellAreas x = new CellAreas();
         x.box(0, 0, 0, 1, 1);
         due("each way by another number", x.grow(1, 0, 1, 2, 3, 4), 1);
@@ -292,7 +278,7 @@ public final class PromisesTest {
     /** Cells on a slanting line, each in a row of its own: grown upwards they share rows and make more stretches. */
     private static void growFull() {
         CellAreas x = new CellAreas();
-        slantingLine(x, 0, 64);
+        slantingLine(x, 0, 64, -1000, -1000);
         due("64 bands", x.bands(0), 64);
         due("too many stretches", x.grow(1, 0, 0, 0, 0, 60), CellAreas.FULL);
         due("nothing is changed", x.bands(1), 0);
@@ -303,7 +289,7 @@ public final class PromisesTest {
     }
 
     private static void shrink() {
-        promise = "9 shrink";
+        about("promise 9 shrink");
         CellAreas x = new CellAreas();
         x.box(0, 0, 0, 10, 10);
         due("each way by another number", x.shrink(1, 0, 1, 2, 3, 4), 1);
@@ -339,7 +325,7 @@ public final class PromisesTest {
     /** What is left out in a slanting line, made larger, leaves more stretches. */
     private static void shrinkFull() {
         CellAreas x = new CellAreas();
-        slantingLine(x, 0, 64);
+        slantingLine(x, 0, 64, -1000, -1000);
         x.box(1, -1000, -1000, 1000, 1000);
         x.combine(0, 1, 0, 2);
         due("bands", x.bands(0), 65);
@@ -350,7 +336,7 @@ public final class PromisesTest {
     }
 
     private static void bandsAndStretches() {
-        promise = "10, 11, 12 bands, band, stretch";
+        about("promise 10, 11, 12 bands, band, stretch");
         CellAreas x = new CellAreas();
         ring(x, 0, 10, 20);
         due("bands", x.bands(0), 3);
@@ -376,7 +362,7 @@ public final class PromisesTest {
     }
 
     private static void has() {
-        promise = "13 has";
+        about("promise 13 has");
         CellAreas x = new CellAreas();
         ring(x, 0, 10, 20);
         String rows = "";
@@ -401,7 +387,7 @@ public final class PromisesTest {
     }
 
     private static void count() {
-        promise = "14 count";
+        about("promise 14 count");
         CellAreas x = new CellAreas();
         counts(x, 0, 0, 0, 0, 0, 0, 0);
         ring(x, 0, -7, 4);
@@ -433,7 +419,7 @@ public final class PromisesTest {
     }
 
     private static void loops() {
-        promise = "15 loop";
+        about("promise 15 loop");
         CellAreas x = new CellAreas();
         ring(x, 0, 10, 20);
         due("corners outside", x.loop(0, 0, 0), 4);
@@ -458,7 +444,7 @@ public final class PromisesTest {
 
     /** Where four sides meet the way goes on to the left. */
     private static void loopsThatMeet() {
-        promise = "15, 16 loop, corner";
+        about("promise 15, 16 loop, corner");
         CellAreas x = new CellAreas();
         // A ring that is open at one corner: its ends meet at the place (1, 2) from both sides, in one loop.
         ring(x, 0, 0, 0);
@@ -485,7 +471,7 @@ public final class PromisesTest {
     }
 
     private static void corners() {
-        promise = "16 corner";
+        about("promise 16 corner");
         CellAreas x = new CellAreas();
         ring(x, 0, 10, 20);
         sameLoops(x, 0, "10,20 13,20 13,23 10,23 | 11,21 11,22 12,22 12,21");
@@ -511,7 +497,7 @@ public final class PromisesTest {
     }
 
     private static void inner() {
-        promise = "17 inner";
+        about("promise 17 inner");
         CellAreas x = new CellAreas();
         x.box(0, 0, 0, 7, 7);
         x.box(1, 1, 1, 6, 6);
@@ -544,7 +530,7 @@ public final class PromisesTest {
     }
 
     private static void parts() {
-        promise = "18, 19 partOf, take";
+        about("promise 18, 19 partOf, take");
         CellAreas x = new CellAreas();
         // A cup that comes together above only, and two cells that meet it at places.
         x.box(0, 0, 1, 5, 4);
@@ -580,7 +566,7 @@ public final class PromisesTest {
     }
 
     private static void largest() {
-        promise = "20 largest";
+        about("promise 20 largest");
         CellAreas x = new CellAreas();
         for (int what = -1; what < 6; what++) {
             due("of nothing", x.largest(0, what), NO_NUMBER);
@@ -606,7 +592,7 @@ public final class PromisesTest {
     }
 
     private static void largestOfSeveral() {
-        promise = "20 largest";
+        about("promise 20 largest");
         CellAreas x = new CellAreas();
         x.box(0, 0, 1, 2, 3);
         x.box(1, 5, 0, 7, 2);
@@ -629,7 +615,7 @@ public final class PromisesTest {
     }
 
     private static void within() {
-        promise = "21 within";
+        about("promise 21 within");
         CellAreas x = new CellAreas();
         x.box(0, 0, 0, 4, 4);
         x.box(1, 1, 1, 3, 3);
@@ -655,7 +641,7 @@ public final class PromisesTest {
     }
 
     private static void distance() {
-        promise = "22 distance";
+        about("promise 22 distance");
         CellAreas x = new CellAreas();
         x.box(0, 0, 0, 1, 1);
         x.box(1, 5, 3, 6, 4);
@@ -686,20 +672,20 @@ public final class PromisesTest {
     }
 
     private static void check() {
-        promise = "23 check";
+        about("promise 23 check");
         CellAreas x = new CellAreas();
         due("of nothing", x.check(0), 1);
         ring(x, 0, 0, 0);
         due("of a ring", x.check(0), 1);
         x.invert(1, 0);
         due("of all but a ring", x.check(1), 1);
-        uprightComb(x, 2, 256);
+        columns(x, 2, 256, -1000, -1000);
         due("of a comb", x.check(2), 1);
         due("nothing is changed", x.count(2, 4), 256);
     }
 
     private static void noSuchArea() {
-        promise = "no such area";
+        about("no such area");
         CellAreas x = new CellAreas();
         for (int n : new int[] {-1, 8, Integer.MIN_VALUE, Integer.MAX_VALUE}) {
             due("box", answer(() -> {
@@ -730,7 +716,7 @@ public final class PromisesTest {
 
     /** Where both an area and another number are wrong, it is the area that counts. */
     private static void areasComeFirst() {
-        promise = "areas are looked at first";
+        about("areas are looked at first");
         CellAreas x = new CellAreas();
         for (int n : new int[] {-1, 8}) {
             due("box", answer(() -> {
@@ -757,9 +743,9 @@ public final class PromisesTest {
     }
 
     private static void limits() {
-        promise = "the limits of an area";
+        about("the limits of an area");
         CellAreas x = new CellAreas();
-        uprightComb(x, 0, 256);
+        columns(x, 0, 256, -1000, -1000);
         x.move(1, 0, 512, 0);
         due("more than 400 stretches in one band", x.combine(2, 0, 1, 0), CellAreas.FULL);
         x.box(3, -1000 + 800, -1000, 1000, 1000);
@@ -783,10 +769,9 @@ public final class PromisesTest {
 
     /** 398 bars between a floor and a roof: as many corners as there can be, and the last loop goes round a hole. */
     private static void mostCorners() {
-        promise = "the limits of an area";
+        about("the limits of an area");
         CellAreas x = new CellAreas();
-        uprightComb(x, 0, 512);
-        due("256 stretches, for 512 are too many", x.band(0, 0, 2), 256);
+        columns(x, 0, 256, -1000, -1000);
         x.move(1, 0, 512, 0);
         x.box(2, -1000 + 796, -1000, 1000, 1000);
         x.combine(1, 1, 2, 2);
@@ -811,7 +796,7 @@ public final class PromisesTest {
 
     /** The first and the last row and column of the field are as good as the others. */
     private static void fieldEdges() {
-        promise = "the field's edges";
+        about("the field's edges");
         CellAreas x = new CellAreas();
         x.box(0, -1000, -1000, -999, -999);
         x.box(1, 999, 999, 1000, 1000);
@@ -838,111 +823,5 @@ public final class PromisesTest {
         due("the last cell", x.partOf(2, 999, 999), 1);
         largestIs(x, 1, 999, 999, 1000, 1000);
         sameLoops(x, 2, "-1000,-1000 -999,-1000 -999,-999 -1000,-999 | 999,999 1000,999 1000,1000 999,1000");
-    }
-
-    /** Area a becomes three times three cells without the middle one. Area 7 is left without cells. */
-    private static void ring(CellAreas x, int a, int left, int low) {
-        x.box(a, left, low, left + 3, low + 3);
-        x.box(7, left + 1, low + 1, left + 2, low + 2);
-        x.combine(a, a, 7, 2);
-        x.clear(7);
-    }
-
-    /** So many rows, a power of two, with one between each two of them, from y = 0 on. */
-    private static void lyingComb(CellAreas x, int a, int teeth) {
-        x.box(a, 0, 0, 10, 1);
-        for (int n = 1; n < teeth; n *= 2) {
-            x.move(7, a, 0, 2 * n);
-            x.combine(a, a, 7, 0);
-        }
-        x.clear(7);
-    }
-
-    /** So many columns, a power of two, with one between each two of them, from the field's left end on. */
-    private static void uprightComb(CellAreas x, int a, int teeth) {
-        x.box(a, -1000, -1000, -999, -990);
-        for (int n = 1; n < teeth; n *= 2) {
-            x.move(7, a, 2 * n, 0);
-            x.combine(a, a, 7, 0);
-        }
-        x.clear(7);
-    }
-
-    /** So many cells, a power of two, each one row higher and two to the right, from the field's corner on. */
-    private static void slantingLine(CellAreas x, int a, int cells) {
-        x.box(a, -1000, -1000, -999, -999);
-        for (int n = 1; n < cells; n *= 2) {
-            x.move(7, a, 2 * n, n);
-            x.combine(a, a, 7, 0);
-        }
-        x.clear(7);
-    }
-
-    private static void counts(CellAreas x, int a, int... due) {
-        String[] names = {"cells", "sides", "loops", "corners", "parts", "holes"};
-        for (int what = 0; what < 6; what++) {
-            due(names[what], x.count(a, what), due[what]);
-        }
-        due("check", x.check(a), 1);
-    }
-
-    private static void largestIs(CellAreas x, int a, int left, int low, int right, int high) {
-        int[] box = {left, low, right, high, (right - left) * (high - low)};
-        for (int what = 0; what < 5; what++) {
-            due("largest, what " + what, x.largest(a, what), box[what]);
-        }
-    }
-
-    /** Bands as "low..high: left..right left..right; ...". */
-    private static void sameArea(CellAreas x, int a, String due) {
-        StringBuilder told = new StringBuilder();
-        for (int i = 0; i < x.bands(a); i++) {
-            told.append(i == 0 ? "" : "; ").append(x.band(a, i, 0)).append("..").append(x.band(a, i, 1)).append(":");
-            for (int k = 0; k < x.band(a, i, 2); k++) {
-                told.append(" ").append(x.stretch(a, i, k, 0)).append("..").append(x.stretch(a, i, k, 1));
-            }
-        }
-        same(told.toString(), due);
-        due("check", x.check(a), 1);
-    }
-
-    /** Loops as "x,y x,y ... | x,y ...". */
-    private static void sameLoops(CellAreas x, int a, String due) {
-        StringBuilder told = new StringBuilder();
-        for (int i = 0; i < x.count(a, 2); i++) {
-            told.append(i == 0 ? "" : " | ");
-            for (int k = 0; k < x.loop(a, i, 0); k++) {
-                told.append(k == 0 ? "" : " ").append(x.corner(a, i, k, 0)).append(",").append(x.corner(a, i, k, 1));
-            }
-        }
-        same(told.toString(), due);
-    }
-
-    private static void same(String told, String due) {
-        if (!told.equals(due)) {
-            wrong++;
-            System.out.println("promise " + promise + ": it is <" + told + ">, due is <" + due + ">");
-        }
-    }
-
-    private static int answer(Call call) {
-        try {
-            return call.answer();
-        } catch (RuntimeException e) {
-            // Just these classes: one that an array throws by itself is a class under the one that is due.
-            return e.getClass() == IndexOutOfBoundsException.class ? AREA
-                    : e.getClass() == IllegalArgumentException.class ? ARGUMENT : OTHER;
-        }
-    }
-
-    private static void due(String call, boolean got, int want) {
-        due(call, got ? 1 : 0, want);
-    }
-
-    private static void due(String call, int got, int want) {
-        if (got != want) {
-            wrong++;
-            System.out.println("promise " + promise + ": " + call + " answered " + got + ", due is " + want);
-        }
     }
 }
