@@ -1,7 +1,10 @@
+import java.io.IOException;
 import java.lang.reflect.Constructor;
 import java.lang.reflect.Field;
 import java.lang.reflect.Method;
 import java.lang.reflect.Modifier;
+import java.nio.file.Files;
+import java.nio.file.Path;
 import java.util.Set;
 import java.util.TreeSet;
 
@@ -9,9 +12,39 @@ import java.util.TreeSet;
 public final class FaceTest {
     private static final String AREA = "IndexOutOfBoundsException";
     private static final String BOTH = "IllegalArgumentException,IndexOutOfBoundsException";
+    /** As the document writes it, where the parameters have names too. */
+    private static final String WRITTEN = """
+            public final class CellAreas
+            public static final int NONE = -1
+            public static final int FULL = -2
+            public CellAreas()
+            public void box(int a, int left, int low, int right, int high) throws A, B
+            public int clear(int a) throws A
+            public int combine(int to, int a, int b, int how) throws A, B
+            public int invert(int to, int a) throws A
+            public int move(int to, int a, int right, int up) throws A, B
+            public int mirror(int to, int a, int way) throws A, B
+            public int grow(int to, int a, int left, int right, int down, int up) throws A, B
+            public int shrink(int to, int a, int left, int right, int down, int up) throws A, B
+            public int bands(int a) throws A
+            public int band(int a, int i, int what) throws A
+            public int stretch(int a, int i, int k, int what) throws A
+            public boolean has(int a, int x, int y) throws A
+            public int count(int a, int what) throws A, B
+            public int loop(int a, int i, int what) throws A, B
+            public int corner(int a, int i, int k, int what) throws A, B
+            public int inner(int to, int a, int i) throws A, B
+            public int partOf(int a, int x, int y) throws A
+            public int take(int to, int a, int k) throws A, B
+            public int largest(int a, int what) throws A
+            public boolean within(int a, int b) throws A
+            public int distance(int a, int b) throws A
+            public int check(int a) throws A
+            """.replace("A, B", "IndexOutOfBoundsException, IllegalArgumentException")
+            .replace("throws A\n", "throws IndexOutOfBoundsException\n");
     private static int wrong = 0;
 
-    public static void main(String[] args) {
+    public static void main(String[] args) throws IOException {
         due("the class is public and final",
                 Modifier.isPublic(CellAreas.class.getModifiers()) && Modifier.isFinal(CellAreas.class.getModifiers()));
         due("NONE is -1", CellAreas.NONE == -1);
@@ -20,6 +53,7 @@ public final class FaceTest {
         sameSets("constructors", Set.of("()"), openConstructors());
         sameSets("methods", methodsDue(), openMethods());
         noPrivateNamesake();
+        isWritten();
         System.out.println(wrong == 0 ? "the face is as due" : wrong + " answers are not as due");
         if (wrong != 0) {
             System.exit(1);
@@ -96,6 +130,20 @@ public final class FaceTest {
                 due(method + " has a name of its own", !same || Modifier.isPublic(method.getModifiers()));
             }
         }
+    }
+
+    /** What is public in the source, in its order, is what the document writes. */
+    private static void isWritten() throws IOException {
+        StringBuilder found = new StringBuilder();
+        String source = Files.readString(Path.of("src/main/java/CellAreas.java")).replaceAll("\\s+", " ");
+        for (int from = source.indexOf("public "); from >= 0; from = source.indexOf("public ", from + 1)) {
+            int to = from;
+            while (source.charAt(to) != '{' && source.charAt(to) != ';') {
+                to++;
+            }
+            found.append(source.substring(from, to).trim()).append('\n');
+        }
+        due("the source has\n" + found + "due is\n" + WRITTEN, found.toString().equals(WRITTEN));
     }
 
     private static void sameSets(String what, Set<String> due, Set<String> got) {

@@ -1,6 +1,9 @@
 /** The boundary cases that the sentences of "Terms" name, each in a test of its own. */
 public final class TermsEdgesTest extends Checks {
     private static final int[] ENDS = {-1000, 999};
+    /** Cells and holes that meet at places, at many of them. */
+    private static final String[] MEETING = {"#####.###.#####", "#.#.#.#.#.#...#", "##.###.##.#.#.#",
+        "#.#.#.#.#.#...#", "#####.###.#####"};
 
     public static void main(String[] args) {
         runTests(TermsEdgesTest.class);
@@ -279,6 +282,24 @@ public final class TermsEdgesTest extends Checks {
         due("corners", corners, x.count(0, 3));
     }
 
+    @Says("sides one behind the other, from a place back to it")
+    private static void fromCornerToCornerItGoesStraightAndTurnsThere(CellAreas x) {
+        draw(x, 0, -2, -3, MEETING);
+        for (int i = 0; i < x.count(0, 2); i++) {
+            int corners = x.loop(0, i, 0);
+            int length = 0;
+            for (int k = 0; k < corners; k++) {
+                int right = x.corner(0, i, (k + 1) % corners, 0) - x.corner(0, i, k, 0);
+                int up = x.corner(0, i, (k + 1) % corners, 1) - x.corner(0, i, k, 1);
+                // Out of each corner by turns along and up or down: lying first outside, upright first round a hole.
+                boolean lying = (k % 2 == 0) == (x.loop(0, i, 2) > 0);
+                due("goes straight and on", lying ? up == 0 && right != 0 : right == 0 && up != 0, true);
+                length += Math.abs(right) + Math.abs(up);
+            }
+            due("length", x.loop(0, i, 1), length);
+        }
+    }
+
     @Says("where four sides meet, the way goes on to the left")
     private static void cellsThatMeetAtAPlaceHaveLoopsOfTheirOwn(CellAreas x) {
         draw(x, 0, 0, 0, ".#", "#.");
@@ -340,6 +361,35 @@ public final class TermsEdgesTest extends Checks {
     private static void holesLoopsStandAmongTheOthers(CellAreas x) {
         draw(x, 0, 0, 0, "..###..", "#.#.#.#", "..###..");
         sameLoops(x, 0, "2,0 5,0 5,3 2,3 | 0,1 1,1 1,2 0,2 | 3,1 3,2 4,2 4,1 | 6,1 7,1 7,2 6,2");
+    }
+
+    @Says("(no two have the same)")
+    private static void eachLoopsFirstCornerStandsBehindTheOneBefore(CellAreas x) {
+        draw(x, 0, -2, -3, MEETING);
+        int loops = x.count(0, 2);
+        due("loops", loops, 6);
+        for (int i = 1; i < loops; i++) {
+            int up = x.corner(0, i, 0, 1) - x.corner(0, i - 1, 0, 1);
+            int right = x.corner(0, i, 0, 0) - x.corner(0, i - 1, 0, 0);
+            due("stands behind it", up > 0 || up == 0 && right > 0, true);
+        }
+    }
+
+    @Says("half of all (x of a corner) (y of the next one) less (x of the next one) (y of it), together")
+    private static void whatALoopGoesRoundComesFromItsCorners(CellAreas x) {
+        draw(x, 0, -2, -3, MEETING);
+        int all = 0;
+        for (int i = 0; i < x.count(0, 2); i++) {
+            int corners = x.loop(0, i, 0);
+            int twice = 0;
+            for (int k = 0; k < corners; k++) {
+                int n = (k + 1) % corners;
+                twice += x.corner(0, i, k, 0) * x.corner(0, i, n, 1) - x.corner(0, i, n, 0) * x.corner(0, i, k, 1);
+            }
+            due("goes round", x.loop(0, i, 2), twice / 2);
+            all += twice / 2;
+        }
+        due("cells", x.count(0, 0), all);
     }
 
     @Says("(below 0 round a hole)")
